@@ -798,7 +798,7 @@ public final class InterlockingFrame {
             enter(start, 0);
             for (int place = 0; place < total && place < MOST_STATES; place++) {
                 int from = order[place];
-                for (int lever = 0; lever < MOST_LEVERS; lever++) {
+                for (int lever = 0; lever < MOST_LEVERS && movable >> lever != 0; lever++) {
                     int to = from ^ 1 << lever;
                     if ((movable >> lever & 1) == 1 && !reached(to) && locking.allows(from, lever)) {
                         enter(to, WAY_STEP * (movesTo(from) + 1) + lever);
@@ -910,7 +910,7 @@ public final class InterlockingFrame {
 
         /** The lowest lever that the looser locking lets move in the state and this one does not. */
         int leverFreed(Locking looser, int state) {
-            for (int lever = 0; lever < MOST_LEVERS; lever++) {
+            for (int lever = 0; lever < MOST_LEVERS && movable >> lever != 0; lever++) {
                 if ((movable >> lever & 1) == 1 && !locking.allows(state, lever) && looser.allows(state, lever)) {
                     return lever;
                 }
