@@ -1213,7 +1213,7 @@ public final class InterlockingFrame {
         private boolean readRoute(Sheet sheet) {
             step();
             int levers = 0;
-            // A thirteenth lever is always a repeated one, so the error ends the loop before its bound.
+            // Of thirteen levers one is repeated or does not exist, so an error ends the loop before its bound.
             for (int count = 0; count <= MOST_LEVERS && (count == 0 || isDigit(byteAt(tokenStart))); count++) {
                 int lever = numberHere(0, sheet.levers - 1);
                 if (lever == NONE) {

@@ -19,8 +19,8 @@ final class Check {
         }
     }
 
-    static void holds(String what, boolean true_) {
-        due(what, true_ ? 1 : 0, 1);
+    static void holds(String what, boolean isSo) {
+        due(what, isSo ? 1 : 0, 1);
     }
 
     static void finish() {

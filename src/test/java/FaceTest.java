@@ -64,6 +64,9 @@ public final class FaceTest {
                 && Modifier.isPublic(constructors[0].getModifiers()) && constructors[0].getParameterCount() == 0);
         for (Class<?> inside : face.getDeclaredClasses()) {
             Check.holds(inside + " is static", Modifier.isStatic(inside.getModifiers()));
+            for (Method method : inside.getDeclaredMethods()) {
+                Check.holds(method + " has a name of its own", !names.contains(method.getName()));
+            }
         }
     }
 

@@ -8,6 +8,7 @@ public final class ReductionTest {
         checkTestOfEachKind();
         checkTestIsShortest();
         checkTestIsFirst();
+        checkTestGoesBack();
         checkAllRules();
         checkWrongInputs();
         Check.finish();
@@ -15,9 +16,8 @@ public final class ReductionTest {
 
     private static void checkTwins() {
         InterlockingFrame frame = Check.frame("levers 3;0 locks 1;2 holds 1;1 locks 0;2 holds 1;");
-        int[] implied = {1, 1, 1, 1};
         for (int rule = 0; rule < 4; rule++) {
-            Check.due("isImplied " + rule, frame.isImplied(rule), implied[rule]);
+            Check.due("isImplied " + rule, frame.isImplied(rule), 1);
             Check.due("testLength " + rule, frame.testLength(rule), -1);
             Check.due("testMove " + rule, frame.testMove(rule, 0), -1);
         }
@@ -78,12 +78,11 @@ public final class ReductionTest {
     }
 
     private static void checkTestIsShortest() {
-        // With lever 0 first the test of rule 0 would take three moves, with lever 2 first it takes two.
+        // A test that begins with lever 0 would come first, but it takes three moves.
         InterlockingFrame frame = Check.frame("levers 3;1 locks 2;0 holds 1;");
         checkTest(frame, 0, 1, 2);
         InterlockingFrame back = Check.frame("levers 3;0 releases 1;");
         checkTest(back, 0, 1);
-        // A test may end with a lever that goes back to normal.
         InterlockingFrame normal = Check.frame("levers 3;0 releases 1;0 releases 1 when 2 normal;2 holds 1;2 releases 0;");
         checkTest(normal, 3, 0);
         Check.due("isImplied(0)", normal.isImplied(0), 1);
@@ -91,13 +90,24 @@ public final class ReductionTest {
     }
 
     private static void checkTestIsFirst() {
-        // Both orders of the levers 0 and 2 lead there; the test takes the lower lever first, and ends with the lower.
+        // The levers may be moved in any order; the test takes the lowest first.
         InterlockingFrame frame = Check.frame("levers 4;0 locks 2;");
         checkTest(frame, 0, 0, 2);
         InterlockingFrame three = Check.frame("levers 4;3 locks 1 when 2 reversed;");
         checkTest(three, 0, 1, 2, 3);
         InterlockingFrame released = Check.frame("levers 4;3 locks 1 when 2 reversed;3 releases 1;3 releases 2;");
         checkTest(released, 0, 3, 1, 2);
+    }
+
+    /** The test ends with a lever that would go back to normal. */
+    private static void checkTestGoesBack() {
+        InterlockingFrame frame = Check.frame("levers 2;0 releases 1;1 holds 0;");
+        checkTest(frame, 0, 1);
+        Check.due("the release alone forbids the same", frame.testLength(1), -1);
+        frame.addRule(2, 0, 1, -1);
+        checkTest(frame, 2, 0, 1);
+        InterlockingFrame held = Check.frame("levers 3;2 holds 1;1 releases 2 when 0 normal;0 holds 2;");
+        checkTest(held, 0, 1, 2, 0, 1);
     }
 
     private static void checkAllRules() {

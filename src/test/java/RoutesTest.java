@@ -32,16 +32,21 @@ public final class RoutesTest {
     }
 
     private static void checkNearestIsLowest() {
-        // Lever 0 needs lever 1 or lever 3; both ways are two moves long, and the search comes by lever 1 first.
+        // Lever 0 needs lever 1 or lever 3: the states 3 and 9 are equally near.
         InterlockingFrame low = Check.frame("levers 4;1 releases 0 when 3 normal;route 0;");
         Check.due("settingState", low.settingState(0), 3);
-        // Lever 3 needs lever 2 or lever 0, and then both of the states 9 and 12 are as near.
+        // Lever 3 needs lever 0 or lever 2: the states 9 and 12 are equally near.
         InterlockingFrame high = Check.frame("levers 4;2 releases 3 when 0 normal;route 3;");
         Check.due("settingState", high.settingState(0), 9);
-        // The lowest of the nearest states is found late: by way of lever 2, then 1, then lever 2 back is longer.
-        InterlockingFrame late = Check.frame("levers 4;1 releases 3 when 0 normal;0 holds 3;route 3;");
-        Check.due("settingState", late.settingState(0), 10);
-        Check.due("settingMoves", late.settingMoves(0), 2);
+        // Lever 0 holds lever 3, so only the way by lever 1 is left.
+        InterlockingFrame held = Check.frame("levers 4;1 releases 3 when 0 normal;0 holds 3;route 3;");
+        Check.due("settingState", held.settingState(0), 10);
+        Check.due("settingMoves", held.settingMoves(0), 2);
+        // Lever 4 needs the levers 0 and 5 or the levers 1 and 2: the way to 49 comes first, but 22 is lower.
+        InterlockingFrame late = Check.frame("levers 6;0 releases 4 when 1 normal;0 releases 4 when 2 normal;"
+                + "5 releases 4 when 1 normal;5 releases 4 when 2 normal;route 4;");
+        Check.due("settingState", late.settingState(0), 22);
+        Check.due("settingMoves", late.settingMoves(0), 3);
     }
 
     private static void checkNotSettable() {

@@ -14,6 +14,7 @@ public final class SheetTest {
         checkCode3();
         checkCode4();
         checkLongestSheet();
+        checkFirstBytesOnly();
         compareWithPlainParser();
         Check.finish();
     }
@@ -67,6 +68,9 @@ public final class SheetTest {
         InterlockingFrame frame = Check.frame("levers 4;0 locks 1;2 holds 3;route 0;route 1;conflict 0 1;");
         frame.moveLever(2);
         frame.addRule(1, 0, 1, -1);
+        Check.due("reachableCount", frame.reachableCount(), 8);
+        Check.due("completionSize", frame.completionSize(), 0);
+        Check.due("leversAfterMerging", frame.leversAfterMerging(), 2);
         Check.due("parseSheet", Check.parse(frame, "levers 3;2 releases 0;"), 2);
         Check.due("leverCount", frame.leverCount(), 3);
         Check.due("ruleCount", frame.ruleCount(), 1);
@@ -77,6 +81,12 @@ public final class SheetTest {
         Check.due("currentState", frame.currentState(), 0);
         Check.due("undo", frame.undo(), -5);
         Check.due("reachableCount", frame.reachableCount(), 6);
+        Check.due("completionSize", frame.completionSize(), 0);
+        Check.due("leversAfterMerging", frame.leversAfterMerging(), 1);
+        Check.due("parseSheet", Check.parse(frame, "levers 4;route 0;route 1;route 0 1;0 locks 2;route 2;conflict 0 1;"), 7);
+        Check.due("completionSize", frame.completionSize(), -1);
+        Check.due("leversAfterMerging", frame.leversAfterMerging(), 2);
+        Check.due("reachableCount", frame.reachableCount(), 12);
     }
 
     private static void checkTokens() {
@@ -86,6 +96,12 @@ public final class SheetTest {
         Check.frame("levers 3;route 0 ; route 0;conflict 0 1 ;");
         Check.error("leversx 3;", 1, 0);
         Check.error("lever 3;", 1, 0);
+        Check.error("leversz 3;", 1, 0);
+        Check.error("leversa 3;", 1, 0);
+        Check.error("levers{ 3;", 1, 6);
+        Check.error("levers` 3;", 1, 6);
+        Check.error("levers 3:;", 1, 8);
+        Check.error("levers 3/;", 1, 8);
         Check.error("Levers 3;", 1, 0);
         Check.error("levers\t3;", 1, 6);
         Check.error("levers 3;\n", 1, 9);
@@ -196,6 +212,21 @@ public final class SheetTest {
         InterlockingFrame frame = new InterlockingFrame();
         Check.due("parseSheet of 900 bytes", Check.parse(frame, sheet), 31);
         Check.due("routeLevers", frame.routeLevers(5), 4095);
+    }
+
+    /** What stands in the buffer behind the first n bytes is no part of the text. */
+    private static void checkFirstBytesOnly() {
+        String whole = "levers 12;10 locks 11 when 9 normal;route 1 2 3;route 10 11;conflict 0 1;route 0;2 holds 3;";
+        InterlockingFrame frame = new InterlockingFrame();
+        for (int n = 0; n <= whole.length(); n++) {
+            Check.append(frame, whole.getBytes(StandardCharsets.ISO_8859_1));
+            PlainParser plain = new PlainParser(whole.substring(0, n));
+            String name = " of the first " + n + " bytes";
+            Check.due("parseSheet" + name, frame.parseSheet(n), plain.code == 0 ? plain.statements : -30 - plain.code);
+            Check.due("parseError" + name, frame.parseError(), plain.code);
+            Check.due("parseErrorOffset" + name, frame.parseErrorOffset(), plain.offset);
+            Check.due("bufferLength" + name, frame.bufferLength(), 0);
+        }
     }
 
     private static final String[] PIECES = {"levers", "locks", "releases", "holds", "when", "normal", "reversed", "route",
