@@ -44,30 +44,15 @@ public final class AnyArgumentsTest {
     }
 
     private static void call(InterlockingFrame frame, Method method, Object[] arguments) throws IllegalAccessException {
-        String before = contents(frame);
+        String before = Check.contents(frame);
         String name = method.getName() + Arrays.toString(arguments);
         try {
             int answer = (Integer) method.invoke(frame, arguments);
             if (answer <= InterlockingFrame.NO_SUCH && answer >= InterlockingFrame.BLOCKED) {
-                Check.holds(name + " refuses and changes nothing", before.equals(contents(frame)));
+                Check.holds(name + " refuses and changes nothing", before.equals(Check.contents(frame)));
             }
         } catch (InvocationTargetException thrown) {
             Check.holds(name + " threw " + thrown.getCause(), false);
         }
-    }
-
-    private static String contents(InterlockingFrame frame) {
-        StringBuilder contents = new StringBuilder();
-        contents.append(frame.leverCount()).append(' ').append(frame.currentState()).append(' ');
-        contents.append(frame.bufferLength()).append(' ').append(frame.parseError()).append(' ');
-        contents.append(frame.parseErrorOffset()).append(' ').append(frame.conflictCount());
-        for (int rule = 0; rule < frame.ruleCount(); rule++) {
-            contents.append(' ').append(frame.ruleKind(rule)).append('-').append(frame.ruleLevers(rule));
-            contents.append('-').append(frame.ruleCondition(rule));
-        }
-        for (int route = 0; route < frame.routeCount(); route++) {
-            contents.append(' ').append(frame.routeLevers(route));
-        }
-        return contents.toString();
     }
 }

@@ -23,6 +23,10 @@ final class Check {
         due(what, isSo ? 1 : 0, 1);
     }
 
+    static int wrongAnswers() {
+        return wrong;
+    }
+
     static void finish() {
         System.out.println(asked + " answers, " + wrong + " not as due");
         if (wrong != 0) {
@@ -65,6 +69,22 @@ final class Check {
         due("conflictCount after " + sheet, frame.conflictCount(), 1);
         due("currentState after " + sheet, frame.currentState(), 4);
         due("undo after " + sheet, frame.undo(), 0);
+    }
+
+    /** What a frame says of itself without a search. */
+    static String contents(InterlockingFrame frame) {
+        StringBuilder contents = new StringBuilder();
+        contents.append(frame.leverCount()).append(" levers, state ").append(frame.currentState());
+        contents.append(", ").append(frame.bufferLength()).append(" bytes, error ").append(frame.parseError());
+        contents.append('/').append(frame.parseErrorOffset()).append(", conflicts ").append(frame.conflictCount());
+        for (int rule = 0; rule < frame.ruleCount(); rule++) {
+            contents.append(", rule ").append(frame.ruleKind(rule)).append('/').append(frame.ruleLevers(rule));
+            contents.append('/').append(frame.ruleCondition(rule));
+        }
+        for (int route = 0; route < frame.routeCount(); route++) {
+            contents.append(", route ").append(frame.routeLevers(route));
+        }
+        return contents.toString();
     }
 
     private static int word(byte[] bytes, int at) {
