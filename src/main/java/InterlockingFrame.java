@@ -347,27 +347,15 @@ public final class InterlockingFrame {
     }
 
     public int isMergeable(int leverA, int leverB) {
-        if (!sheet.hasLever(leverA) || !sheet.hasLever(leverB)) {
-            return NO_SUCH;
+        int count = countMerged(leverA, leverB);
+        if (count < 0) {
+            return count;
         }
-        if (leverA == leverB) {
-            return BAD_VALUE;
-        }
-        merger.begin(sheet, searchedHome());
-        merger.attempt(Math.min(leverA, leverB), Math.max(leverA, leverB));
         return merger.keepsRoutesAndConflicts() ? 1 : 0;
     }
 
     public int mergedReachableCount(int leverA, int leverB) {
-        if (!sheet.hasLever(leverA) || !sheet.hasLever(leverB)) {
-            return NO_SUCH;
-        }
-        if (leverA == leverB) {
-            return BAD_VALUE;
-        }
-        merger.begin(sheet, searchedHome());
-        merger.attempt(Math.min(leverA, leverB), Math.max(leverA, leverB));
-        return trial.total;
+        return countMerged(leverA, leverB);
     }
 
     public int leversAfterMerging() {
@@ -423,6 +411,19 @@ public final class InterlockingFrame {
         Search search = searchedHome();
         trial.locking.enforceAll(sheet, sheet.allRules() & ~(1 << rule));
         return search.firstPlaceFreed(trial.locking);
+    }
+
+    /** Attempts the merge and counts its reachable states; or the refusal of the levers. */
+    private int countMerged(int leverA, int leverB) {
+        if (!sheet.hasLever(leverA) || !sheet.hasLever(leverB)) {
+            return NO_SUCH;
+        }
+        if (leverA == leverB) {
+            return BAD_VALUE;
+        }
+        merger.begin(sheet, searchedHome());
+        merger.attempt(Math.min(leverA, leverB), Math.max(leverA, leverB));
+        return trial.total;
     }
 
     private static int leverPair(int leverA, int leverB) {

@@ -23,24 +23,30 @@ public final class AnyArgumentsTest {
         Method[] methods = InterlockingFrame.class.getDeclaredMethods();
         Arrays.sort(methods, Comparator.comparing(Method::getName));
         Numbers numbers = new Numbers(sheet.length());
-        InterlockingFrame frame = Check.frame(sheet);
-        int calls = 0;
         for (Method method : methods) {
             if (!Modifier.isPublic(method.getModifiers())) {
                 continue;
             }
             for (int round = 0; round < 70; round++) {
-                if (calls++ % 400 == 0) {
-                    frame = Check.frame(sheet);
-                }
                 Object[] arguments = new Object[method.getParameterCount()];
                 for (int at = 0; at < arguments.length; at++) {
                     int choice = at == 0 && round < VALUES.length ? round : numbers.below(VALUES.length);
                     arguments[at] = VALUES[choice];
                 }
-                call(frame, method, arguments);
+                call(usedFrame(sheet, numbers), method, arguments);
             }
         }
+    }
+
+    /** Made anew for each call, as the looks at its contents count among its 512 calls. */
+    private static InterlockingFrame usedFrame(String sheet, Numbers numbers) {
+        InterlockingFrame frame = Check.frame(sheet);
+        for (int move = numbers.below(15); move > 0; move--) {
+            frame.moveLever(numbers.below(frame.leverCount()));
+        }
+        frame.removeRule(numbers.below(24));
+        frame.appendBytes(0x6C657665, 0x72732034, 0x3B30206C, 0x6F636B73, 0x20333B20);
+        return frame;
     }
 
     private static void call(InterlockingFrame frame, Method method, Object[] arguments) throws IllegalAccessException {

@@ -213,6 +213,9 @@ public final class RoutesBoundaryTest extends BoundaryTests {
         due("completionSize", frame.completionSize(), 1);
         due("completionLock(0)", frame.completionLock(0), 1);
         due("completionLock(1)", frame.completionLock(1), NONE);
+        InterlockingFrame high = frame("levers 12;route 11;route 10;route 9 10;conflict 0 1;conflict 0 2;");
+        due("completionSize by the highest levers", high.completionSize(), 1);
+        due("completionLock(0)", high.completionLock(0), 1110);
     }
 
     /** Lever 4 needs 0 and 1, or 2 and 3: either lock leaves a way to its route, both together do not. */

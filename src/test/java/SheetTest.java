@@ -217,8 +217,8 @@ public final class SheetTest {
     /** What stands in the buffer behind the first n bytes is no part of the text. */
     private static void checkFirstBytesOnly() {
         String whole = "levers 12;10 locks 11 when 9 normal;route 1 2 3;route 10 11;conflict 0 1;route 0;2 holds 3;";
-        InterlockingFrame frame = new InterlockingFrame();
         for (int n = 0; n <= whole.length(); n++) {
+            InterlockingFrame frame = new InterlockingFrame();
             Check.append(frame, whole.getBytes(StandardCharsets.ISO_8859_1));
             PlainParser plain = new PlainParser(whole.substring(0, n));
             String name = " of the first " + n + " bytes";

@@ -298,6 +298,23 @@ public final class WorkingBoundaryTest extends BoundaryTests {
     }
 
     @Sentence("older ones are forgotten")
+    static void promise19_whatIsStillRememberedIsWhole() {
+        InterlockingFrame frame = frame("levers 12;0 locks 1;2 holds 3 when 4 normal;5 releases 6;");
+        frame.moveLever(0);
+        String before = contents(frame);
+        frame.removeRule(1);
+        frame.addRule(0, 7, 8, 19);
+        for (int call = 1; call <= 10; call++) {
+            frame.moveLever(11);
+        }
+        for (int left = 11; left >= 0; left--) {
+            due("undo", frame.undo(), left);
+        }
+        same("contents after all but the forgotten call are undone", contents(frame), before);
+        due("undo of the forgotten call", frame.undo(), EMPTY);
+    }
+
+    @Sentence("older ones are forgotten")
     static void promise19_manyCallsAreForgotten() {
         InterlockingFrame frame = new InterlockingFrame();
         for (int call = 1; call <= 101; call++) {
