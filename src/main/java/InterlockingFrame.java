@@ -23,9 +23,7 @@ public final class InterlockingFrame {
     private static final int MOST_BYTES = 900;
     private static final int BYTES_A_CALL = 20;
 
-    private final int[] text = new int[MOST_BYTES];
-    private int textLength = 0;
-    private final SheetParser parser = new SheetParser(text);
+    private final SheetParser parser = new SheetParser();
     private final Sheet sheet = new Sheet();
     private final Sheet draft = new Sheet();
     private final History history = new History();
@@ -35,10 +33,8 @@ public final class InterlockingFrame {
     private final Search home = new Search();
     private boolean homeIsKnown = false;
     private final Search trial = new Search();
-    private final LockPlanner planner = new LockPlanner(trial);
-    private boolean planIsKnown = false;
-    private int planSize = NONE;
-    private final Merger merger = new Merger(trial);
+    private final LockPlanner planner = new LockPlanner();
+    private final Merger merger = new Merger();
     private boolean mergingIsKnown = false;
     private int leversLeft = FEWEST_LEVERS;
 
@@ -46,24 +42,22 @@ public final class InterlockingFrame {
     }
 
     public int appendBytes(int a, int b, int c, int d, int e) {
-        if (textLength + BYTES_A_CALL > MOST_BYTES) {
+        if (parser.textLength + BYTES_A_CALL > MOST_BYTES) {
             return FULL;
         }
-        appendWord(a);
-        appendWord(b);
-        appendWord(c);
-        appendWord(d);
-        appendWord(e);
-        return textLength;
+        parser.append(a);
+        parser.append(b);
+        parser.append(c);
+        parser.append(d);
+        parser.append(e);
+        return parser.textLength;
     }
 
     public int parseSheet(int n) {
-        if (n < 0 || n > textLength) {
+        if (n < 0 || n > parser.textLength) {
             return BAD_VALUE;
         }
-        boolean clean = parser.read(n, draft);
-        textLength = 0;
-        if (!clean) {
+        if (!parser.read(n, draft)) {
             return -30 - parser.errorCode;
         }
         sheet.copyFrom(draft);
@@ -82,7 +76,7 @@ public final class InterlockingFrame {
     }
 
     public int bufferLength() {
-        return textLength;
+        return parser.textLength;
     }
 
     public int leverCount() {
@@ -272,23 +266,19 @@ public final class InterlockingFrame {
             return NO_SUCH;
         }
         int settable = sheet.settableRoutes(searchedHome());
-        return planner.propose(sheet, conflict, home.locking, settable);
+        return planner.propose(trial, sheet, conflict, home.locking, settable);
     }
 
     public int completionSize() {
-        if (!planIsKnown) {
-            int settable = sheet.settableRoutes(searchedHome());
-            planSize = planner.complete(sheet, home.locking, settable) ? planner.lockTotal : NONE;
-            planIsKnown = true;
-        }
-        return planSize;
+        return planner.complete(trial, sheet, searchedHome());
     }
 
     public int completionLock(int index) {
         if (index < 0) {
             return BAD_VALUE;
         }
-        return index < completionSize() && index < MOST_CONFLICTS ? planner.locks[index] : NONE;
+        int size = planner.complete(trial, sheet, searchedHome());
+        return index < size && index < MOST_CONFLICTS ? planner.locks[index] : NONE;
     }
 
     public int largestRouteSet() {
@@ -351,7 +341,7 @@ public final class InterlockingFrame {
         if (count < 0) {
             return count;
         }
-        return merger.keepsRoutesAndConflicts() ? 1 : 0;
+        return merger.keepsRoutesAndConflicts(trial) ? 1 : 0;
     }
 
     public int mergedReachableCount(int leverA, int leverB) {
@@ -362,7 +352,7 @@ public final class InterlockingFrame {
         if (!mergingIsKnown) {
             merger.begin(sheet, searchedHome());
             leversLeft = sheet.levers;
-            for (int step = 0; step < MOST_LEVERS && merger.mergeFirstPair(); step++) {
+            for (int step = 0; step < MOST_LEVERS && merger.mergeFirstPair(trial); step++) {
                 leversLeft--;
             }
             mergingIsKnown = true;
@@ -370,16 +360,9 @@ public final class InterlockingFrame {
         return leversLeft;
     }
 
-    private void appendWord(int word) {
-        for (int shift = 24; shift >= 0 && textLength < MOST_BYTES; shift -= 8) {
-            text[textLength] = word >>> shift & 255;
-            textLength++;
-        }
-    }
-
     private void forgetFindings() {
         homeIsKnown = false;
-        planIsKnown = false;
+        planner.forget();
         mergingIsKnown = false;
     }
 
@@ -422,7 +405,7 @@ public final class InterlockingFrame {
             return BAD_VALUE;
         }
         merger.begin(sheet, searchedHome());
-        merger.attempt(Math.min(leverA, leverB), Math.max(leverA, leverB));
+        merger.attempt(trial, Math.min(leverA, leverB), Math.max(leverA, leverB));
         return trial.total;
     }
 
@@ -922,17 +905,17 @@ public final class InterlockingFrame {
 
     /** Finds locks that protect conflicts. */
     private static final class LockPlanner {
-        private final Search trial;
         private final Locking grown = new Locking();
         final int[] locks = new int[MOST_CONFLICTS];
-        int lockTotal = 0;
+        private boolean sizeIsKnown = false;
+        private int size = NONE;
 
-        LockPlanner(Search trial) {
-            this.trial = trial;
+        void forget() {
+            sizeIsKnown = false;
         }
 
         /** The lowest lock for the conflict, on top of the base, that leaves these routes settable. */
-        int propose(Sheet sheet, int conflict, Locking base, int settable) {
+        int propose(Search trial, Sheet sheet, int conflict, Locking base, int settable) {
             if (!sheet.hasConflict(conflict)) {
                 return NONE;
             }
@@ -941,7 +924,7 @@ public final class InterlockingFrame {
             for (int leverA = 0; leverA < MOST_LEVERS; leverA++) {
                 for (int leverB = 0; leverB < MOST_LEVERS; leverB++) {
                     boolean offered = leverA != leverB && (first >> leverA & second >> leverB & 1) == 1;
-                    if (offered && keepsRoutes(sheet, base, lockOf(leverA, leverB), settable)) {
+                    if (offered && keepsRoutes(trial, sheet, base, lockOf(leverA, leverB), settable)) {
                         return leverPair(leverA, leverB);
                     }
                 }
@@ -950,32 +933,39 @@ public final class InterlockingFrame {
         }
 
         /** Only the routes are looked at: such a lock always protects, as both routes together need both levers. */
-        private boolean keepsRoutes(Sheet sheet, Locking base, int lock, int settable) {
+        private static boolean keepsRoutes(Search trial, Sheet sheet, Locking base, int lock, int settable) {
             trial.locking.copyFrom(base);
             trial.locking.enforce(lock);
             trial.explore(HOME, sheet.movableLevers());
             return (settable & ~sheet.settableRoutes(trial)) == 0;
         }
 
-        /** Collects the locks of the completion; false if it fails. */
-        boolean complete(Sheet sheet, Locking base, int settable) {
-            lockTotal = 0;
-            grown.copyFrom(base);
-            for (int conflict = 0; conflict < sheet.conflictTotal && lockTotal < MOST_CONFLICTS; conflict++) {
+        /** Collects the locks of the completion, unless they are still known; their number, NONE if it fails. */
+        int complete(Search trial, Sheet sheet, Search home) {
+            if (sizeIsKnown) {
+                return size;
+            }
+            sizeIsKnown = true;
+            size = NONE;
+            int added = 0;
+            int settable = sheet.settableRoutes(home);
+            grown.copyFrom(home.locking);
+            for (int conflict = 0; conflict < sheet.conflictTotal && added < MOST_CONFLICTS; conflict++) {
                 trial.locking.copyFrom(grown);
                 trial.explore(HOME, sheet.movableLevers());
                 if ((sheet.openConflicts(trial) >> conflict & 1) == 0) {
                     continue;
                 }
-                int pair = propose(sheet, conflict, grown, settable);
+                int pair = propose(trial, sheet, conflict, grown, settable);
                 if (pair == NONE) {
-                    return false;
+                    return size;
                 }
                 grown.enforce(lockOf(pair / 100, pair % 100));
-                locks[lockTotal] = pair;
-                lockTotal++;
+                locks[added] = pair;
+                added++;
             }
-            return true;
+            size = added;
+            return size;
         }
 
         private static int lockOf(int leverA, int leverB) {
@@ -985,15 +975,10 @@ public final class InterlockingFrame {
 
     /** Merges levers, measured against the frame with which it began. */
     private static final class Merger {
-        private final Search trial;
         private final Sheet merged = new Sheet();
         private final Sheet attempted = new Sheet();
         private int settable = 0;
         private int open = 0;
-
-        Merger(Search trial) {
-            this.trial = trial;
-        }
 
         void begin(Sheet sheet, Search search) {
             merged.copyFrom(sheet);
@@ -1001,7 +986,7 @@ public final class InterlockingFrame {
             open = sheet.openConflicts(search);
         }
 
-        void attempt(int low, int high) {
+        void attempt(Search trial, int low, int high) {
             attempted.copyFrom(merged);
             attempted.mergeLever(high, low);
             trial.locking.enforceAll(attempted, attempted.allRules());
@@ -1009,18 +994,18 @@ public final class InterlockingFrame {
         }
 
         /** Whether the last attempt leaves settable what was settable, and protected what was protected. */
-        boolean keepsRoutesAndConflicts() {
+        boolean keepsRoutesAndConflicts(Search trial) {
             return (settable & ~attempted.settableRoutes(trial)) == 0
                     && (attempted.openConflicts(trial) & ~open) == 0;
         }
 
         /** Merges the first pair that may be merged; false if there is none. */
-        boolean mergeFirstPair() {
+        boolean mergeFirstPair(Search trial) {
             for (int low = 0; low < merged.levers; low++) {
                 for (int high = low + 1; high < merged.levers; high++) {
                     if (merged.canMove(low) && merged.canMove(high)) {
-                        attempt(low, high);
-                        if (keepsRoutesAndConflicts()) {
+                        attempt(trial, low, high);
+                        if (keepsRoutesAndConflicts(trial)) {
                             merged.copyFrom(attempted);
                             return true;
                         }
@@ -1080,7 +1065,7 @@ public final class InterlockingFrame {
         }
     }
 
-    /** Reads a sheet token by token and stops at the first token that is in error. */
+    /** Holds the text of a sheet; reads it token by token and stops at the first token that is in error. */
     private static final class SheetParser {
         private static final int NOT_ALLOWED = 1;
         private static final int OUT_OF_RANGE = 2;
@@ -1088,19 +1073,26 @@ public final class InterlockingFrame {
         private static final int TOO_MANY = 4;
         private static final int MOST_DIGITS = 4;
 
+        int textLength = 0;
         int errorCode = 0;
         int errorOffset = NONE;
-        private final int[] text;
+        private final int[] text = new int[MOST_BYTES];
+        /** So many bytes of the text are read. */
         private int length = 0;
         private int tokenStart = 0;
         private int tokenEnd = 0;
 
-        SheetParser(int[] text) {
-            this.text = text;
+        void append(int word) {
+            for (int shift = 24; shift >= 0 && textLength < MOST_BYTES; shift -= 8) {
+                text[textLength] = word >>> shift & 255;
+                textLength++;
+            }
         }
 
+        /** Reads the first bytes as a sheet and empties the text; false if there is an error. */
         boolean read(int n, Sheet sheet) {
-            length = Math.min(n, text.length);
+            length = Math.min(n, textLength);
+            textLength = 0;
             errorCode = 0;
             errorOffset = NONE;
             tokenEnd = 0;
