@@ -8,7 +8,7 @@ public final class AgainstPlainFrameTest {
         for (int seed = 1; seed <= 500; seed++) {
             Numbers numbers = new Numbers(seed);
             PlainFrame plain = someFrame(numbers, 2 + numbers.below(5), 13);
-            InterlockingFrame frame = Check.frame(plain.sheet());
+            FrameInUse frame = new FrameInUse(plain.sheet());
             compareAll(frame, plain, "seed " + seed + " " + plain.sheet());
         }
         for (int seed = 1; seed <= 150; seed++) {
@@ -54,7 +54,7 @@ public final class AgainstPlainFrameTest {
         }
     }
 
-    private static void compareAll(InterlockingFrame frame, PlainFrame plain, String name) {
+    private static void compareAll(FrameInUse frame, PlainFrame plain, String name) {
         compareContents(frame, plain, name);
         compareStates(frame, plain, name);
         compareRoutes(frame, plain, name);
@@ -62,86 +62,86 @@ public final class AgainstPlainFrameTest {
         compareMerging(frame, plain, name);
     }
 
-    private static void compareContents(InterlockingFrame frame, PlainFrame plain, String name) {
-        Check.due(name + " leverCount", frame.leverCount(), plain.levers);
-        Check.due(name + " ruleCount", frame.ruleCount(), plain.rules.size());
-        Check.due(name + " routeCount", frame.routeCount(), plain.routes.size());
-        Check.due(name + " conflictCount", frame.conflictCount(), plain.conflicts.size());
-        Check.due(name + " currentState", frame.currentState(), plain.state);
+    private static void compareContents(FrameInUse frame, PlainFrame plain, String name) {
+        Check.due(name + " leverCount", frame.ask().leverCount(), plain.levers);
+        Check.due(name + " ruleCount", frame.ask().ruleCount(), plain.rules.size());
+        Check.due(name + " routeCount", frame.ask().routeCount(), plain.routes.size());
+        Check.due(name + " conflictCount", frame.ask().conflictCount(), plain.conflicts.size());
+        Check.due(name + " currentState", frame.ask().currentState(), plain.state);
         for (int rule = 0; rule < plain.rules.size(); rule++) {
             PlainFrame.Rule due = plain.rules.get(rule);
-            Check.due(name + " ruleKind " + rule, frame.ruleKind(rule), due.kind());
-            Check.due(name + " ruleLevers " + rule, frame.ruleLevers(rule), 100 * due.a() + due.b());
-            Check.due(name + " ruleCondition " + rule, frame.ruleCondition(rule), due.condition());
+            Check.due(name + " ruleKind " + rule, frame.ask().ruleKind(rule), due.kind());
+            Check.due(name + " ruleLevers " + rule, frame.ask().ruleLevers(rule), 100 * due.a() + due.b());
+            Check.due(name + " ruleCondition " + rule, frame.ask().ruleCondition(rule), due.condition());
         }
         for (int route = 0; route < plain.routes.size(); route++) {
             int levers = plain.routes.get(route).stream().mapToInt(lever -> 1 << lever).sum();
-            Check.due(name + " routeLevers " + route, frame.routeLevers(route), levers);
+            Check.due(name + " routeLevers " + route, frame.ask().routeLevers(route), levers);
         }
     }
 
-    private static void compareStates(InterlockingFrame frame, PlainFrame plain, String name) {
+    private static void compareStates(FrameInUse frame, PlainFrame plain, String name) {
         int states = 1 << plain.levers;
-        Check.due(name + " reachableCount", frame.reachableCount(), plain.reachable().size());
+        Check.due(name + " reachableCount", frame.ask().reachableCount(), plain.reachable().size());
         for (int state = 0; state < states; state++) {
-            Check.due(name + " isLegal " + state, frame.isLegal(state), plain.legal(state) ? 1 : 0);
-            Check.due(name + " freeLevers " + state, frame.freeLevers(state), plain.freeLevers(state));
+            Check.due(name + " isLegal " + state, frame.ask().isLegal(state), plain.legal(state) ? 1 : 0);
+            Check.due(name + " freeLevers " + state, frame.ask().freeLevers(state), plain.freeLevers(state));
             for (int lever = 0; lever < plain.levers; lever++) {
                 Check.due(name + " blockingRule " + state + "," + lever,
-                        frame.blockingRule(state, lever), plain.blockingRule(state, lever));
+                        frame.ask().blockingRule(state, lever), plain.blockingRule(state, lever));
             }
         }
         Numbers numbers = new Numbers(states);
         for (int tries = 0; tries < 12; tries++) {
             int from = numbers.below(states);
             int to = numbers.below(states);
-            Check.due(name + " distance " + from + "," + to, frame.distance(from, to), plain.distance(from, to));
-            Check.due(name + " nextMove " + from + "," + to, frame.nextMove(from, to), plain.nextMove(from, to));
-            Check.due(name + " distance 0," + to, frame.distance(0, to), plain.distance(0, to));
-            Check.due(name + " nextMove 0," + to, frame.nextMove(0, to), plain.nextMove(0, to));
+            Check.due(name + " distance " + from + "," + to, frame.ask().distance(from, to), plain.distance(from, to));
+            Check.due(name + " nextMove " + from + "," + to, frame.ask().nextMove(from, to), plain.nextMove(from, to));
+            Check.due(name + " distance 0," + to, frame.ask().distance(0, to), plain.distance(0, to));
+            Check.due(name + " nextMove 0," + to, frame.ask().nextMove(0, to), plain.nextMove(0, to));
         }
         for (int lever = 0; lever < plain.levers; lever++) {
-            Check.due(name + " excludedLevers " + lever, frame.excludedLevers(lever), plain.excludedLevers(lever));
+            Check.due(name + " excludedLevers " + lever, frame.ask().excludedLevers(lever), plain.excludedLevers(lever));
         }
     }
 
-    private static void compareRoutes(InterlockingFrame frame, PlainFrame plain, String name) {
+    private static void compareRoutes(FrameInUse frame, PlainFrame plain, String name) {
         for (int route = 0; route < plain.routes.size(); route++) {
-            Check.due(name + " settingState " + route, frame.settingState(route), plain.settingState(route));
-            Check.due(name + " settingMoves " + route, frame.settingMoves(route), plain.settingMoves(route));
+            Check.due(name + " settingState " + route, frame.ask().settingState(route), plain.settingState(route));
+            Check.due(name + " settingMoves " + route, frame.ask().settingMoves(route), plain.settingMoves(route));
             for (int other = 0; other < plain.routes.size(); other++) {
                 Check.due(name + " jointStates " + route + "," + other,
-                        frame.jointStates(route, other), plain.jointStates(route, other));
+                        frame.ask().jointStates(route, other), plain.jointStates(route, other));
             }
         }
-        Check.due(name + " unprotectedConflicts", frame.unprotectedConflicts(), plain.unprotectedConflicts());
+        Check.due(name + " unprotectedConflicts", frame.ask().unprotectedConflicts(), plain.unprotectedConflicts());
         for (int conflict = 0; conflict < plain.conflicts.size(); conflict++) {
-            Check.due(name + " proposedLock " + conflict, frame.proposedLock(conflict), plain.proposedLock(conflict));
+            Check.due(name + " proposedLock " + conflict, frame.ask().proposedLock(conflict), plain.proposedLock(conflict));
         }
         List<Integer> locks = plain.completion();
-        Check.due(name + " completionSize", frame.completionSize(), locks == null ? -1 : locks.size());
+        Check.due(name + " completionSize", frame.ask().completionSize(), locks == null ? -1 : locks.size());
         for (int index = 0; index < 9; index++) {
             int due = locks == null || index >= locks.size() ? -1 : locks.get(index);
-            Check.due(name + " completionLock " + index, frame.completionLock(index), due);
+            Check.due(name + " completionLock " + index, frame.ask().completionLock(index), due);
         }
-        Check.due(name + " largestRouteSet", frame.largestRouteSet(), plain.largestRouteSet());
-        Check.due(name + " farthestState", frame.farthestState(), plain.farthestState());
+        Check.due(name + " largestRouteSet", frame.ask().largestRouteSet(), plain.largestRouteSet());
+        Check.due(name + " farthestState", frame.ask().farthestState(), plain.farthestState());
     }
 
-    private static void compareTests(InterlockingFrame frame, PlainFrame plain, String name) {
+    private static void compareTests(FrameInUse frame, PlainFrame plain, String name) {
         for (int rule = 0; rule < plain.rules.size(); rule++) {
-            Check.due(name + " isImplied " + rule, frame.isImplied(rule), plain.isImplied(rule) ? 1 : 0);
+            Check.due(name + " isImplied " + rule, frame.ask().isImplied(rule), plain.isImplied(rule) ? 1 : 0);
             List<Integer> test = plain.test(rule);
-            Check.due(name + " testLength " + rule, frame.testLength(rule), test.isEmpty() ? -1 : test.size());
+            Check.due(name + " testLength " + rule, frame.ask().testLength(rule), test.isEmpty() ? -1 : test.size());
             for (int index = 0; index < test.size() + 2; index++) {
                 Check.due(name + " testMove " + rule + "," + index,
-                        frame.testMove(rule, index), index < test.size() ? test.get(index) : -1);
+                        frame.ask().testMove(rule, index), index < test.size() ? test.get(index) : -1);
             }
         }
-        Check.due(name + " reducedSheet", frame.reducedSheet(), plain.reducedSheet());
+        Check.due(name + " reducedSheet", frame.ask().reducedSheet(), plain.reducedSheet());
     }
 
-    private static void compareMerging(InterlockingFrame frame, PlainFrame plain, String name) {
+    private static void compareMerging(FrameInUse frame, PlainFrame plain, String name) {
         for (int a = 0; a < plain.levers; a++) {
             for (int b = 0; b < plain.levers; b++) {
                 if (a == b) {
@@ -149,41 +149,41 @@ public final class AgainstPlainFrameTest {
                 }
                 PlainFrame merged = plain.merged(a, b);
                 Check.due(name + " isMergeable " + a + "," + b,
-                        frame.isMergeable(a, b), plain.accepts(merged) ? 1 : 0);
+                        frame.ask().isMergeable(a, b), plain.accepts(merged) ? 1 : 0);
                 Check.due(name + " mergedReachableCount " + a + "," + b,
-                        frame.mergedReachableCount(a, b), merged.reachable().size());
+                        frame.ask().mergedReachableCount(a, b), merged.reachable().size());
             }
         }
-        Check.due(name + " leversAfterMerging", frame.leversAfterMerging(), plain.leversAfterMerging());
+        Check.due(name + " leversAfterMerging", frame.ask().leversAfterMerging(), plain.leversAfterMerging());
     }
 
     /** Works the frame for a while; what was found before a change must not be answered after it. */
     private static void work(Numbers numbers, int seed) {
         PlainFrame plain = someFrame(numbers, 2 + numbers.below(4), 8);
-        InterlockingFrame frame = Check.frame(plain.sheet());
+        FrameInUse frame = new FrameInUse(plain.sheet());
         for (int step = 0; step < 60; step++) {
             String name = "work " + seed + " step " + step;
             int what = numbers.below(10);
             if (what < 4) {
                 int lever = numbers.below(plain.levers + 2) - 1;
-                Check.due(name + " moveLever " + lever, frame.moveLever(lever), plain.moveLever(lever));
+                Check.due(name + " moveLever " + lever, frame.change(used -> used.moveLever(lever)), plain.moveLever(lever));
             } else if (what < 7) {
                 int kind = numbers.below(4 + numbers.below(2)) - numbers.below(2);
                 int a = numbers.below(plain.levers + 1);
                 int b = numbers.below(plain.levers + 1) - numbers.below(2);
                 int condition = numbers.below(2 * plain.levers + 4) - 3;
                 Check.due(name + " addRule " + kind + "," + a + "," + b + "," + condition,
-                        frame.addRule(kind, a, b, condition), plain.addRule(kind, a, b, condition));
+                        frame.change(used -> used.addRule(kind, a, b, condition)), plain.addRule(kind, a, b, condition));
             } else if (what < 8) {
                 int rule = numbers.below(plain.rules.size() + 2) - 1;
-                Check.due(name + " removeRule " + rule, frame.removeRule(rule), plain.removeRule(rule));
+                Check.due(name + " removeRule " + rule, frame.change(used -> used.removeRule(rule)), plain.removeRule(rule));
             } else {
-                Check.due(name + " undo", frame.undo(), plain.undo());
+                Check.due(name + " undo", frame.change(InterlockingFrame::undo), plain.undo());
             }
-            Check.due(name + " reachableCount", frame.reachableCount(), plain.reachable().size());
-            Check.due(name + " completionSize", frame.completionSize(),
+            Check.due(name + " reachableCount", frame.ask().reachableCount(), plain.reachable().size());
+            Check.due(name + " completionSize", frame.ask().completionSize(),
                     plain.completion() == null ? -1 : plain.completion().size());
-            Check.due(name + " leversAfterMerging", frame.leversAfterMerging(), plain.leversAfterMerging());
+            Check.due(name + " leversAfterMerging", frame.ask().leversAfterMerging(), plain.leversAfterMerging());
             compareContents(frame, plain, name);
         }
         compareAll(frame, plain, "after work " + seed);
@@ -197,16 +197,16 @@ public final class AgainstPlainFrameTest {
             while (plain.rules.size() < 20) {
                 addSomeRule(plain, numbers);
             }
-            InterlockingFrame frame = Check.frame(plain.sheet());
+            FrameInUse frame = new FrameInUse(plain.sheet());
             String name = "big frame " + seed;
             compareContents(frame, plain, name);
             compareStates(frame, plain, name);
             compareTests(frame, plain, name);
             compareRoutes(frame, plain, name);
             Check.due(name + " mergedReachableCount 3,9",
-                    frame.mergedReachableCount(3, 9), plain.merged(3, 9).reachable().size());
+                    frame.ask().mergedReachableCount(3, 9), plain.merged(3, 9).reachable().size());
             Check.due(name + " mergedReachableCount 11,5",
-                    frame.mergedReachableCount(11, 5), plain.merged(11, 5).reachable().size());
+                    frame.ask().mergedReachableCount(11, 5), plain.merged(11, 5).reachable().size());
         }
     }
 }
