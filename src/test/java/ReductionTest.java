@@ -5,6 +5,8 @@ public final class ReductionTest {
         checkUnreachableRule();
         checkKept();
         checkDroppedTogether();
+        checkFewerStatesThanBefore();
+        checkEveryStateReached();
         checkTestOfEachKind();
         checkTestIsShortest();
         checkTestIsFirst();
@@ -47,6 +49,31 @@ public final class ReductionTest {
         Check.due("isImplied", frame.isImplied(0), 0);
         Check.due("reducedSheet", frame.reducedSheet(), 1);
         Check.due("reducedSheet", new InterlockingFrame().reducedSheet(), 0);
+    }
+
+    private static void checkFewerStatesThanBefore() {
+        // When levers 0 and 1 need each other first, the lock is missed only in states that were reachable before.
+        InterlockingFrame frame = Check.frame("levers 2;0 locks 1;");
+        Check.due("isImplied(0) at first", frame.isImplied(0), 0);
+        Check.due("testLength(0) at first", frame.testLength(0), 2);
+        frame.addRule(1, 0, 1, -1);
+        frame.addRule(1, 1, 0, -1);
+        Check.due("reachableCount", frame.reachableCount(), 1);
+        Check.due("isImplied(0)", frame.isImplied(0), 1);
+        Check.due("testLength(0)", frame.testLength(0), -1);
+        Check.due("testMove(0, 0)", frame.testMove(0, 0), -1);
+        Check.due("reducedSheet", frame.reducedSheet(), 6);
+        frame.removeRule(2);
+        Check.due("isImplied(0) without the last", frame.isImplied(0), 0);
+        Check.due("testLength(0) without the last", frame.testLength(0), 2);
+    }
+
+    private static void checkEveryStateReached() {
+        InterlockingFrame frame = Check.frame("levers 12;0 holds 11;0 holds 11;");
+        Check.due("reachableCount", frame.reachableCount(), 4096);
+        Check.due("isImplied(0)", frame.isImplied(0), 1);
+        Check.due("testLength(1)", frame.testLength(1), -1);
+        Check.due("reducedSheet", frame.reducedSheet(), 1);
     }
 
     private static void checkDroppedTogether() {
